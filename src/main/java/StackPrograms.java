@@ -750,7 +750,7 @@ public final class StackPrograms {
                 token = mark;
                 next++;
             } else {
-                failHere(UNKNOWN_BYTE);
+                fail(UNKNOWN_BYTE, tokenAt);
             }
         }
 
@@ -764,7 +764,7 @@ public final class StackPrograms {
                 next++;
             }
             if (next - tokenAt > MOST_NAME) {
-                failHere(UNKNOWN_BYTE);
+                fail(UNKNOWN_BYTE, tokenAt);
                 return;
             }
             token = NAME;
@@ -1268,7 +1268,10 @@ public final class StackPrograms {
 
         void solve() {
             reachAll();
-            Arrays.fill(cost, ENDLESS);
+            int used = row(program.statements, 0);
+            for (int at = 0; at < used; at++) {
+                cost[at] = ENDLESS;
+            }
             Arrays.fill(loweredAt, 0);
             Arrays.fill(lookedAt, 0);
             looks = 0;

@@ -130,6 +130,13 @@ final class ProgramsTest {
         }
         due.is("told: no program any more", x.told(3, 0), BAD);
         due.is("check: no program any more", x.check(), BAD);
+        due.is("a late fault", Due.read(x, "var a; proc m { a = 1; assert 0; } ;"), -12);
+        for (int what = 0; what <= 2; what++) {
+            due.is("told: no program, though most of it was read", x.told(what, 0), 0);
+        }
+        for (int what = 3; what <= 5; what++) {
+            due.is("told: no program, though most of it was read", x.told(what, 0), BAD);
+        }
     }
 
     private void statementsAndPlaces() {

@@ -25,6 +25,7 @@ final class SystemsTest {
         test.limitOfFar();
         test.whatComesAfter();
         test.allRulesOfTwoSigns();
+        test.rulesStayApart();
         test.due.close();
     }
 
@@ -246,6 +247,15 @@ final class SystemsTest {
         due.is("the word again", x.way(0, 0), 2);
         x.clear();
         due.is("nothing", x.way(0, 0), NONE);
+        x.end(9, 1);
+        due.is("no arc", x.far(0), NONE);
+        due.is("no arc: after", x.after(0), 0);
+        x.arc(0, 0, 9);
+        due.is("an arc alone", x.far(0), 0);
+        due.is("an arc alone: after", x.after(0), 1);
+        due.is("an arc alone: way", x.way(3, 0), NONE);
+        x.rule(3, 0, 0, 1, 0, 0);
+        due.is("a rule alone: way", x.way(3, 0), 0);
     }
 
     private void leastRuleFirst() {
@@ -424,5 +434,25 @@ final class SystemsTest {
         due.is("48 rules: after two", x.after(1), 1);
         word(x, 11, 1, 1);
         due.is("48 rules: after none", x.after(1), 0);
+    }
+
+    /** What lies below the first sign of one rule is not what lies below that of another. */
+    private void rulesStayApart() {
+        StackPrograms x = new StackPrograms();
+        for (int r = 0; r < 48; r++) {
+            x.rule(r / 12, r % 12, 4 + r / 12, 2, r % 12, (r * 5 + r / 12) % 12);
+        }
+        for (int sign = 0; sign < 12; sign++) {
+            for (int state = 0; state < 4; state++) {
+                x.arc(state, sign, 8);
+            }
+        }
+        x.end(8, 1);
+        for (int r = 0; r < 48; r++) {
+            for (int below = 0; below < 12; below++) {
+                word(x, below, r % 12);
+                due.is("apart: " + r + " " + below, x.after(4 + r / 12), below == (r * 5 + r / 12) % 12 ? 1 : 0);
+            }
+        }
     }
 }
