@@ -1,6 +1,9 @@
 import java.util.Random;
 
-/** No call throws or fails to end, for any arguments in any state, and the same calls give the same answers. */
+/**
+ * No call throws or fails to end, for any arguments in any state, and the same calls give the same answers: that holds
+ * also behind the 512th call, so a run here may have some more.
+ */
 final class AnyCallsTest {
     private static final int[] NUMBERS = {Integer.MIN_VALUE, -1, 0, 1, 2, 3, 4, 5, 6, 7, 8, 9, 11, 12, 15, 16, 47, 48,
         600, 1999, 2000, Integer.MAX_VALUE};

@@ -1,7 +1,7 @@
 /** The faults of promises 13 and 14: which is told, and where. A text has the mark @ just before the fault's place. */
 final class FaultsTest {
     private final Due due = new Due("FaultsTest");
-    private final StackPrograms x = new StackPrograms();
+    private StackPrograms x;
 
     public static void main(String[] args) {
         FaultsTest test = new FaultsTest();
@@ -20,6 +20,7 @@ final class FaultsTest {
     private void fault(int number, String marked) {
         int at = marked.indexOf('@');
         String text = marked.substring(0, at) + marked.substring(at + 1);
+        x = new StackPrograms();
         int typed = Due.type(x, text);
         due.is("typed: " + marked, typed, text.length());
         due.is("read: " + marked, x.read(), -10 - number);
@@ -28,6 +29,7 @@ final class FaultsTest {
     }
 
     private void fine(String text, int statements) {
+        x = new StackPrograms();
         due.is("read: " + text, Due.read(x, text), statements);
         due.is("place: " + text, x.place(), StackPrograms.NONE);
     }

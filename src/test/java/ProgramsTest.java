@@ -74,6 +74,7 @@ final class ProgramsTest {
         due.is("read", x.read(), 0);
         due.is("told: procedures", x.told(1, 0), 1);
         for (int b = 0; b < 256; b++) {
+            x = new StackPrograms();
             x.type(b, 1);
             boolean isKnown = b == 10 || b == 32 || (b >= 'a' && b <= 'z') || "01*=;,{}()!&|".indexOf(b) >= 0;
             due.is("read: byte " + b, x.read(), isKnown ? -12 : -11);

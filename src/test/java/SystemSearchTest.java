@@ -240,8 +240,8 @@ final class SystemSearchTest {
         return seen;
     }
 
-    /** Whether c is after the set is also whether one of the set is before the set of c alone. */
-    private boolean isBefore(String c) {
+    /** An object with the rules, and the set of c alone. */
+    private StackPrograms setOf(String c) {
         StackPrograms y = new StackPrograms();
         for (int[] r : rules) {
             y.rule(r[0], r[1], r[2], r[3], r[4], r[5]);
@@ -252,7 +252,19 @@ final class SystemSearchTest {
             node = 7 + i;
         }
         y.end(node, 1);
+        return y;
+    }
+
+    /** Whether c is after the set is also whether one of the set is before the set of c alone. */
+    private boolean isBefore(String c) {
+        StackPrograms y = setOf(c);
+        int asked = 0;
         for (String s : allInSet(6)) {
+            asked++;
+            // With eight calls for each an object would come to more than it may be used for.
+            if (asked % 50 == 0) {
+                y = setOf(c);
+            }
             setWord(y, s);
             if (y.far(s.charAt(0) - '0') != -1) {
                 return true;

@@ -438,6 +438,16 @@ final class SystemsTest {
 
     /** What lies below the first sign of one rule is not what lies below that of another. */
     private void rulesStayApart() {
+        for (int r = 0; r < 48; r++) {
+            StackPrograms x = rulesForEachSign();
+            for (int below = 0; below < 12; below++) {
+                word(x, below, r % 12);
+                due.is("apart: " + r + " " + below, x.after(4 + r / 12), below == (r * 5 + r / 12) % 12 ? 1 : 0);
+            }
+        }
+    }
+
+    private static StackPrograms rulesForEachSign() {
         StackPrograms x = new StackPrograms();
         for (int r = 0; r < 48; r++) {
             x.rule(r / 12, r % 12, 4 + r / 12, 2, r % 12, (r * 5 + r / 12) % 12);
@@ -448,11 +458,6 @@ final class SystemsTest {
             }
         }
         x.end(8, 1);
-        for (int r = 0; r < 48; r++) {
-            for (int below = 0; below < 12; below++) {
-                word(x, below, r % 12);
-                due.is("apart: " + r + " " + below, x.after(4 + r / 12), below == (r * 5 + r / 12) % 12 ? 1 : 0);
-            }
-        }
+        return x;
     }
 }
