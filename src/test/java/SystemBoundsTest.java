@@ -58,6 +58,7 @@ final class SystemBoundsTest {
         clearAnswers();
         clearLeavesNothing();
         clearLeavesNoEnd();
+        clearThenAnEndAlone();
         clearLeavesNothingBehind();
         clearLeavesTheRest();
     }
@@ -92,6 +93,8 @@ final class SystemBoundsTest {
     private void waysFrom() {
         statesOfAfter();
         afterNoSteps();
+        afterManySteps();
+        afterABranchThatJoinsLate();
         afterAnEmptyStack();
         afterThirtySigns();
         afterByTheLastRule();
@@ -578,11 +581,34 @@ final class SystemBoundsTest {
         }
     }
 
+    private void clearThenAnEndAlone() {
+        due.by("No rules .. are there any more: an end alone brings none back");
+        StackPrograms x = new StackPrograms();
+        x.rule(0, 0, 1, 0, 0, 0);
+        x.end(1, 1);
+        x.push(0);
+        due.is("far: before", x.far(0), 1);
+        due.is("way: before", x.way(0, 0), 0);
+        x.clear();
+        x.end(1, 1);
+        due.is("far", x.far(0), NONE);
+        due.is("way", x.way(0, 0), NONE);
+        x.clear();
+        x.rule(0, 0, 1, 0, 0, 0);
+        x.arc(0, 0, 8);
+        x.end(8, 1);
+        x.drop();
+        due.is("after: before", x.after(1), 1);
+        x.clear();
+        x.end(8, 1);
+        due.is("after", x.after(1), 0);
+    }
+
     private void clearLeavesNothingBehind() {
         due.by("No rules .. are there any more: nor what came of them");
         StackPrograms x = new StackPrograms();
-        x.rule(0, 0, 1, 0, 0, 0);
         x.rule(0, 1, 1, 2, 2, 3);
+        x.rule(0, 0, 1, 0, 0, 0);
         x.arc(0, 0, 8);
         x.arc(0, 1, 8);
         x.end(8, 1);
@@ -1056,6 +1082,54 @@ final class SystemBoundsTest {
         due.is("after: two", x.after(2), 1);
         due.is("after: not from it", x.after(3), 0);
         due.is("far: the other way round", x.far(2), NONE);
+    }
+
+    private void afterManySteps() {
+        due.by("AFTER: by steps (in whatever order their rules came)");
+        StackPrograms x = new StackPrograms();
+        x.rule(4, 4, 5, 1, 5, 0);
+        x.rule(3, 3, 4, 2, 4, 6);
+        x.rule(2, 2, 3, 1, 3, 0);
+        x.rule(1, 1, 2, 1, 2, 0);
+        x.rule(0, 0, 1, 0, 0, 0);
+        x.arc(0, 0, 8);
+        x.arc(8, 1, 9);
+        x.end(9, 1);
+        word(x, 6, 5);
+        due.is("after", x.after(5), 1);
+        due.is("after: in another state", x.after(4), 0);
+        x.rule(7, 7, 3, 1, 3, 0);
+        x.rule(5, 5, 6, 0, 0, 0);
+        x.rule(6, 6, 7, 1, 7, 0);
+        word(x, 3);
+        due.is("after: once more around", x.after(3), 1);
+        word(x, 6, 6, 4);
+        due.is("after: it never grows by more", x.after(4), 0);
+        word(x, 6, 4);
+        due.is("after: it grows by one", x.after(4), 1);
+    }
+
+    private void afterABranchThatJoinsLate() {
+        due.by("AFTER: by steps (as many as it takes)");
+        StackPrograms x = new StackPrograms();
+        x.rule(2, 6, 3, 0, 0, 0);
+        x.rule(0, 0, 1, 2, 5, 6);
+        x.rule(1, 5, 2, 0, 0, 0);
+        x.rule(4, 4, 0, 1, 0, 0);
+        x.rule(5, 5, 4, 1, 4, 0);
+        x.rule(6, 6, 5, 1, 5, 0);
+        // The set: state 0 with 0 and 7 below, state 6 with 6 and 8 below.
+        x.arc(0, 0, 8);
+        x.arc(8, 7, 10);
+        x.arc(6, 6, 9);
+        x.arc(9, 8, 10);
+        x.end(10, 1);
+        word(x, 7);
+        due.is("after: the one", x.after(3), 1);
+        word(x, 8);
+        due.is("after: the other", x.after(3), 1);
+        word(x, 9);
+        due.is("after: neither", x.after(3), 0);
     }
 
     private void afterAnEmptyStack() {
